@@ -25,9 +25,9 @@ public final class PalletRounds {
     private final Net net = new Net();
     private final Net keptNet = new Net();
     private boolean imageKept = false;
-    private final Tours tours = new Tours(net);
-    private final States states = new States(net, tours);
-    private final Truth truth = new Truth(net);
+    private final Tours tours = new Tours();
+    private final States states = new States();
+    private final Truth truth = new Truth();
     private final Tape tape = new Tape();
     private final Sheet[] sheets = new Sheet[SHEETS];
     private final int[] shown = new int[CLASSES * MOST_STATIONS];
@@ -146,15 +146,15 @@ public final class PalletRounds {
         switch (what) {
             case 0: return net.homes[part];
             case 1: return net.parts[part];
-            case 2: return tours.goesRound(part) ? 1 : 0;
-            case 3: return tours.reachedBy(part);
+            case 2: return tours.round[part] ? 1 : 0;
+            case 3: return tours.reached[part];
             default: return BAD;
         }
     }
 
     public long visits(int part, int station, int what) {
         if (!isClass(part) || !net.hasStation(station) || what < 0 || what > 1) return NO;
-        if (!tours.goesRound(part)) return NO;
+        if (!tours.round[part]) return NO;
         return what == 0 ? tours.visitsOf(part, station) : tours.demandOf(part, station);
     }
 
@@ -260,7 +260,7 @@ public final class PalletRounds {
         long bestBelow = 1;
         for (int station = 0; station < net.size; station++) {
             if (net.timeOf(part, station) < 2) continue;
-            states.hasten(part, station);
+            hasten(part, station);
             long above = states.rateAbove(part);
             long below = states.constantOfAll();
             if (swiftest == NONE || compareFractions(above, below, bestAbove, bestBelow) > 0) {
@@ -269,7 +269,7 @@ public final class PalletRounds {
                 bestBelow = below;
             }
         }
-        states.loadDemands();
+        states.load(net, tours);
         return swiftest;
     }
 
@@ -277,7 +277,7 @@ public final class PalletRounds {
 
     public int begin() {
         if (!tours.isSound()) return STATE;
-        truth.beginAtHomes();
+        truth.beginAtHomes(net);
         return truth.people;
     }
 
@@ -286,7 +286,7 @@ public final class PalletRounds {
         if (!truth.begun) return STATE;
         int left = 0;
         for (int i = 0; i < n; i++) {
-            left += truth.turnOnce();
+            left += truth.turnOnce(net);
         }
         return left;
     }
@@ -439,11 +439,9 @@ public final class PalletRounds {
     /** What ends that which is BEGUN is just what changes VISITS, DEMANDS and STATES, so all of them follow from here. */
     private void netTold() {
         truth.forget();
-        for (int part = 0; part < CLASSES; part++) {
-            tours.reckon(part);
-        }
-        states.loadDemands();
-        states.forgetLikeliest();
+        tours.reckon(net, 0);
+        tours.reckon(net, 1);
+        states.load(net, tours);
     }
 
     private boolean obey(int place) {
@@ -486,15 +484,41 @@ public final class PalletRounds {
 
     private long limitAbove(int part, int line) {
         long own = net.parts[part];
-        long all = tours.demandTogether(part, false) + tours.demandTogether(part, true);
-        long most = tours.demandMost(part);
+        long all = demandTogether(part, false) + demandTogether(part, true);
+        long most = demandMost(part);
         // 1 over most is the lesser, if most times own is the greater.
         return most > 0 && most * own > all ? fraction(1, most, line) : fraction(own, all, line);
     }
 
     private long limitBelow(int part, int line) {
         long own = net.parts[part];
-        return fraction(own, own * tours.demandTogether(part, false) + tours.demandTogether(part, true), line);
+        return fraction(own, own * demandTogether(part, false) + demandTogether(part, true), line);
+    }
+
+    private long demandTogether(int part, boolean atWalks) {
+        long sum = 0;
+        for (int station = 0; station < net.size; station++) {
+            if ((net.kinds[station] == WALK) == atWalks) sum += tours.demandOf(part, station);
+        }
+        return sum;
+    }
+
+    /** The greatest DEMAND at no WALK. */
+    private long demandMost(int part) {
+        long most = 0;
+        for (int station = 0; station < net.size; station++) {
+            if (net.kinds[station] != WALK) most = Math.max(most, tours.demandOf(part, station));
+        }
+        return most;
+    }
+
+    /** DEMANDS become as if TIME of a CLASS at a STATION were one less. */
+    private void hasten(int part, int station) {
+        states.load(net, tours);
+        for (int each = 0; each < CLASSES; each++) {
+            boolean also = each == part || net.kinds[station] == LINE;
+            if (also) states.lessen(each, station, tours.visitsOf(each, station));
+        }
     }
 
     private int homePasses(int part) {
@@ -614,6 +638,16 @@ public final class PalletRounds {
             return sum;
         }
 
+        /** The STATIONS to which ROUTES lead from one, as bits. */
+        int ledTo(int part, int from) {
+            int first = (part * MOST_STATIONS + from) * MOST_STATIONS;
+            int bits = 0;
+            for (int to = 0; to < size; to++) {
+                if (weights[first + to] > 0) bits |= 1 << to;
+            }
+            return bits;
+        }
+
         int countRoutes() {
             int above = 0;
             for (int i = 0; i < weights.length; i++) {
@@ -625,32 +659,13 @@ public final class PalletRounds {
 
     /** Which STATIONS each CLASS REACHES, its VISITS and DEMANDS: reckoned anew whenever the net is told of. */
     private static final class Tours {
-        private final Net net;
-        private final int[] reached = new int[CLASSES];
-        private final boolean[] round = new boolean[CLASSES];
-        private final boolean[] light = new boolean[CLASSES];
+        private final boolean[] fit = {true, true};
+        final int[] reached = new int[CLASSES];
+        final boolean[] round = new boolean[CLASSES];
         private final long[] visitRow = new long[CLASSES * MOST_STATIONS];
+        private final long[] demandRow = new long[CLASSES * MOST_STATIONS];
         private final int[] others = new int[MOST_STATIONS];
         private final long[] cells = new long[MOST_STATIONS * MOST_STATIONS];
-
-        Tours(Net net) {
-            this.net = net;
-        }
-
-        boolean isSound() {
-            for (int part = 0; part < CLASSES; part++) {
-                if (net.parts[part] > 0 && !(round[part] && light[part])) return false;
-            }
-            return true;
-        }
-
-        boolean goesRound(int part) {
-            return round[part];
-        }
-
-        int reachedBy(int part) {
-            return reached[part];
-        }
 
         /** 0, too, for a CLASS that doesn't GO ROUND. */
         long visitsOf(int part, int station) {
@@ -658,73 +673,54 @@ public final class PalletRounds {
         }
 
         long demandOf(int part, int station) {
-            return visitsOf(part, station) * net.timeOf(part, station);
+            return demandRow[part * MOST_STATIONS + station];
         }
 
-        long demandTogether(int part, boolean atWalks) {
-            long sum = 0;
+        void reckon(Net net, int part) {
+            int first = part * MOST_STATIONS;
+            reached[part] = findReached(net, part);
+            round[part] = net.homes[part] != NONE && (reached[part] & ~findReturning(net, part)) == 0;
+            long divisor = 0;
             for (int station = 0; station < net.size; station++) {
-                if ((net.kinds[station] == WALK) == atWalks) sum += demandOf(part, station);
+                boolean comes = round[part] && hasBit(reached[part], station);
+                visitRow[first + station] = comes ? treesTo(net, part, station) * net.weightsFrom(part, station) : 0;
+                divisor = commonDivisor(divisor, visitRow[first + station]);
             }
-            return sum;
-        }
-
-        /** The greatest DEMAND at no WALK. */
-        long demandMost(int part) {
             long most = 0;
             for (int station = 0; station < net.size; station++) {
-                if (net.kinds[station] != WALK) most = Math.max(most, demandOf(part, station));
+                if (divisor > 0) visitRow[first + station] /= divisor;
+                demandRow[first + station] = visitRow[first + station] * net.timeOf(part, station);
+                most = Math.max(most, demandRow[first + station]);
             }
-            return most;
+            fit[part] = net.parts[part] == 0 || round[part] && most <= MOST_DEMAND;
         }
 
-        void reckon(int part) {
-            reached[part] = findReached(part);
-            round[part] = net.homes[part] != NONE && (reached[part] & ~findReturning(part)) == 0;
-            long divisor = 0;
-            for (int station = 0; station < MOST_STATIONS; station++) {
-                boolean comes = round[part] && hasBit(reached[part], station);
-                long share = comes ? treesTo(part, station) * net.weightsFrom(part, station) : 0;
-                visitRow[part * MOST_STATIONS + station] = share;
-                divisor = commonDivisor(divisor, share);
-            }
-            light[part] = true;
-            for (int station = 0; station < net.size; station++) {
-                if (divisor > 0) visitRow[part * MOST_STATIONS + station] /= divisor;
-                if (demandOf(part, station) > MOST_DEMAND) light[part] = false;
-            }
+        boolean isSound() {
+            return fit[0] && fit[1];
         }
 
         private static boolean hasBit(int bits, int station) {
             return (bits >> station & 1) == 1;
         }
 
-        private int findReached(int part) {
+        private static int findReached(Net net, int part) {
             int bits = net.homes[part] == NONE ? 0 : 1 << net.homes[part];
             for (int step = 0; step < net.size; step++) {
                 for (int from = 0; from < net.size; from++) {
-                    if (hasBit(bits, from)) bits |= ledTo(part, from);
+                    if (hasBit(bits, from)) bits |= net.ledTo(part, from);
                 }
             }
             return bits;
         }
 
         /** Those from which one comes to HOME by one ROUTE or more. */
-        private int findReturning(int part) {
+        private static int findReturning(Net net, int part) {
             int goal = net.homes[part] == NONE ? 0 : 1 << net.homes[part];
             int bits = 0;
             for (int step = 0; step < net.size; step++) {
                 for (int from = 0; from < net.size; from++) {
-                    if ((ledTo(part, from) & (goal | bits)) != 0) bits |= 1 << from;
+                    if ((net.ledTo(part, from) & (goal | bits)) != 0) bits |= 1 << from;
                 }
-            }
-            return bits;
-        }
-
-        private int ledTo(int part, int from) {
-            int bits = 0;
-            for (int to = 0; to < net.size; to++) {
-                if (net.weightOf(part, from, to) > 0) bits |= 1 << to;
             }
             return bits;
         }
@@ -733,7 +729,7 @@ public final class PalletRounds {
          * The weights of all trees of ROUTES that lead to root, together: times the weights from there they are
          * in proportion to VISITS (the theorem of trees of a chain), and they are whole.
          */
-        private long treesTo(int part, int root) {
+        private long treesTo(Net net, int part, int root) {
             int n = 0;
             for (int station = 0; station < net.size; station++) {
                 if (station != root && hasBit(reached[part], station)) {
@@ -775,42 +771,34 @@ public final class PalletRounds {
      */
     private static final class States {
         private static final int SIDE = MOST_OF_CLASS + 1;
-        private final Net net;
-        private final Tours tours;
+        private int size = 0;
+        private int all0 = 0;
+        private int all1 = 0;
         private boolean likeliestKnown = false;
         private long greatest = 0;
+        private final boolean[] walks = new boolean[MOST_STATIONS];
         private final long[] demands = new long[CLASSES * MOST_STATIONS];
         private final long[] constants = new long[SIDE * SIDE];
         private final long[] factors = new long[SIDE * SIDE];
         private final int[] tried = new int[CLASSES * MOST_STATIONS];
         private final int[] likeliest = new int[CLASSES * MOST_STATIONS];
 
-        States(Net net, Tours tours) {
-            this.net = net;
-            this.tours = tours;
-        }
-
-        void forgetLikeliest() {
+        void load(Net net, Tours tours) {
+            size = net.size;
+            all0 = net.parts[0];
+            all1 = net.parts[1];
             likeliestKnown = false;
-        }
-
-        void loadDemands() {
-            for (int part = 0; part < CLASSES; part++) {
-                for (int station = 0; station < net.size; station++) {
-                    // A CLASS without PARTS may have DEMANDS beyond all bounds, and none of them counts.
-                    long demand = net.parts[part] > 0 ? tours.demandOf(part, station) : 0;
-                    demands[part * MOST_STATIONS + station] = demand;
-                }
+            for (int station = 0; station < size; station++) {
+                walks[station] = net.kinds[station] == WALK;
+                // A CLASS without PARTS may have DEMANDS beyond all bounds, and none of them counts.
+                demands[station] = all0 > 0 ? tours.demandOf(0, station) : 0;
+                demands[MOST_STATIONS + station] = all1 > 0 ? tours.demandOf(1, station) : 0;
             }
         }
 
-        /** DEMANDS become as if TIME of a CLASS at a STATION were one less. */
-        void hasten(int part, int station) {
-            loadDemands();
-            for (int each = 0; each < CLASSES; each++) {
-                if (each != part && net.kinds[station] != LINE || net.parts[each] == 0) continue;
-                demands[each * MOST_STATIONS + station] -= tours.visitsOf(each, station);
-            }
+        void lessen(int part, int station, long by) {
+            long now = demands[part * MOST_STATIONS + station];
+            demands[part * MOST_STATIONS + station] = Math.max(now - by, 0);
         }
 
         long constantOf(int n0, int n1, int m) {
@@ -819,13 +807,13 @@ public final class PalletRounds {
         }
 
         long constantOfAll() {
-            return constantOf(net.parts[0], net.parts[1], net.size);
+            return constantOf(all0, all1, size);
         }
 
         /** What stands above the line of RATE, if CONSTANT of all stands below. */
         long rateAbove(int part) {
-            fillConstants(net.parts[0], net.parts[1], net.size, NONE);
-            return oneLessAbove(part, net.parts[0], net.parts[1]);
+            fillConstants(all0, all1, size, NONE);
+            return oneLessAbove(part, all0, all1);
         }
 
         /** As constants are filled now: CONSTANT with one PART less, times the factorials of n0 and n1. */
@@ -835,30 +823,28 @@ public final class PalletRounds {
         }
 
         long busyAbove(int station) {
-            fillConstants(net.parts[0], net.parts[1], net.size, NONE);
-            long first = demands[station] * oneLessAbove(0, net.parts[0], net.parts[1]);
-            return first + demands[MOST_STATIONS + station] * oneLessAbove(1, net.parts[0], net.parts[1]);
+            fillConstants(all0, all1, size, NONE);
+            long first = demands[station] * oneLessAbove(0, all0, all1);
+            return first + demands[MOST_STATIONS + station] * oneLessAbove(1, all0, all1);
         }
 
         long numberAbove(int part, int station) {
-            int n0 = net.parts[0];
-            int n1 = net.parts[1];
-            fillConstants(n0, n1, net.size, station);
-            fillFactors(station, n0, n1);
+            fillConstants(all0, all1, size, station);
+            fillFactors(station, all0, all1);
             long sum = 0;
-            for (int a = 0; a <= n0; a++) {
-                for (int b = 0; b <= n1; b++) {
-                    sum += (part == 0 ? a : b) * waysTimes(n0, n1, a, b);
+            for (int a = 0; a <= all0; a++) {
+                for (int b = 0; b <= all1; b++) {
+                    sum += (part == 0 ? a : b) * waysTimes(all0, all1, a, b);
                 }
             }
             return sum;
         }
 
         long weightOf(int[] state) {
-            int left0 = net.parts[0];
-            int left1 = net.parts[1];
+            int left0 = all0;
+            int left1 = all1;
             long product = 1;
-            for (int station = 0; station < net.size; station++) {
+            for (int station = 0; station < size; station++) {
                 int a = state[station];
                 int b = state[MOST_STATIONS + station];
                 product *= choose(left0, a) * choose(left1, b) * factorOf(station, a, b);
@@ -872,7 +858,7 @@ public final class PalletRounds {
             if (!likeliestKnown) {
                 greatest = 0;
                 Arrays.fill(likeliest, 0);
-                tryPlace(0, net.parts[0], net.parts[1], 1);
+                tryPlace(0, all0, all1, 1);
                 likeliestKnown = true;
             }
             return likeliest[part * MOST_STATIONS + station];
@@ -880,21 +866,21 @@ public final class PalletRounds {
 
         /** STATES come in the order in which they are preferred, so only a greater WEIGHT takes the place. Depth: 10 places. */
         private void tryPlace(int place, int left0, int left1, long weight) {
-            if (place >= CLASSES * net.size) {
+            if (place >= CLASSES * size) {
                 if (left0 == 0 && left1 == 0 && weight > greatest) {
                     greatest = weight;
                     System.arraycopy(tried, 0, likeliest, 0, likeliest.length);
                 }
                 return;
             }
-            boolean second = place >= net.size;
-            int station = second ? place - net.size : place;
+            boolean second = place >= size;
+            int station = second ? place - size : place;
             int at = (second ? MOST_STATIONS : 0) + station;
             int left = second ? left1 : left0;
-            int least = station == net.size - 1 ? left : 0;
+            int least = station == size - 1 ? left : 0;
             for (int n = left; n >= least; n--) {
                 long product = weight * choose(left, n) * power(demands[at], n);
-                if (second && net.kinds[station] != WALK) product *= factorial(tried[station] + n);
+                if (second && !walks[station]) product *= factorial(tried[station] + n);
                 if (product == 0) continue;
                 tried[at] = n;
                 tryPlace(place + 1, second ? left0 : left0 - n, second ? left1 - n : left1, product);
@@ -945,15 +931,15 @@ public final class PalletRounds {
         /** WEIGHT at a STATION, but for the factorials below the line. */
         private long factorOf(int station, int a, int b) {
             long product = power(demands[station], a) * power(demands[MOST_STATIONS + station], b);
-            return net.kinds[station] == WALK ? product : product * factorial(a + b);
+            return walks[station] ? product : product * factorial(a + b);
         }
     }
 
     /** PARTS that truly go round. */
     private static final class Truth {
-        private final Net net;
         boolean begun = false;
         int people = 0;
+        private int ofClass0 = 0;
         int turns = 0;
         int seed = 1;
         private int leftNow = 0;
@@ -964,10 +950,6 @@ public final class PalletRounds {
         final int[] passes = new int[CLASSES * MOST_STATIONS];
         private final int[] leavers = new int[MOST_PARTS];
 
-        Truth(Net net) {
-            this.net = net;
-        }
-
         void forget() {
             begun = false;
             people = 0;
@@ -976,25 +958,26 @@ public final class PalletRounds {
             Arrays.fill(passes, 0);
         }
 
-        void beginAtHomes() {
+        void beginAtHomes(Net net) {
             forget();
             begun = true;
+            ofClass0 = net.parts[0];
             for (int part = 0; part < CLASSES; part++) {
                 for (int i = 0; i < net.parts[part] && people < MOST_PARTS; i++) {
                     people++;
-                    arrive(people - 1, net.homes[part]);
+                    arrive(net, people - 1, net.homes[part]);
                 }
             }
         }
 
         /** How many left STATIONS in it. */
-        int turnOnce() {
+        int turnOnce(Net net) {
             leftNow = 0;
             for (int station = 0; station < net.size; station++) {
-                serve(station);
+                serve(station, net.kinds[station]);
             }
             for (int i = 0; i < leftNow; i++) {
-                arrive(leavers[i], drawGoal(leavers[i]));
+                arrive(net, leavers[i], drawGoal(net, leavers[i]));
             }
             turns++;
             return leftNow;
@@ -1009,10 +992,10 @@ public final class PalletRounds {
         }
 
         private int classOf(int one) {
-            return one < net.parts[0] ? 0 : 1;
+            return one < ofClass0 ? 0 : 1;
         }
 
-        private void arrive(int one, int station) {
+        private void arrive(Net net, int one, int station) {
             if (!net.hasStation(station)) return;
             standLast(one, station);
             places[one] = station;
@@ -1025,10 +1008,10 @@ public final class PalletRounds {
             standing[station]++;
         }
 
-        private void serve(int station) {
+        private void serve(int station, int kind) {
             int n = standing[station];
             if (n == 0) return;
-            switch (net.kinds[station]) {
+            switch (kind) {
                 case LINE:
                     work(station, 0);
                     break;
@@ -1070,7 +1053,7 @@ public final class PalletRounds {
             standing[station]--;
         }
 
-        private int drawGoal(int one) {
+        private int drawGoal(Net net, int one) {
             int part = classOf(one);
             int from = places[one];
             int drawn = draw(net.weightsFrom(part, from));

@@ -198,16 +198,19 @@ public final class RatesTest {
         forBothInALine();
     }
 
-    /** Alone one less at STATION 1 would serve CLASS 0 better; for both, the LINE does. */
+    /** All DEMANDS are 2. One less for CLASS 0 alone: RATE 4 over 18; for both, as in a LINE: 3 over 14, which is less. */
     private static void forBothInALine() {
-        PalletRounds x = StatesTest.pairOfStations(0, 1, 4, 1, 5, 1);
+        PalletRounds x = StatesTest.pairOfStations(0, 1, 2, 9, 2, 2);
         x.parts(0, 1);
-        x.parts(1, 4);
-        DUE.is("24: for both in a LINE", x.swift(0), 0);
-        x.becomes(0, 1);
-        x.time(0, 1, 4);
-        DUE.is("24: for its own in a STACK", x.swift(0), 0);
-        x.time(1, 0, 9);
-        DUE.is("24: at the other", x.swift(0), 0);
+        x.parts(1, 1);
+        DUE.is("24: for both in a LINE", x.swift(0), 1);
+        x.becomes(1, 0);
+        DUE.is("24: two LINES", x.swift(0), 0);
+        x.becomes(0, 2);
+        x.time(0, 1, 2);
+        DUE.is("24: in a SHARE for its own", x.swift(0), 0);
+        x.parts(1, 0);
+        x.becomes(0, 0);
+        DUE.is("24: alone in a LINE", x.swift(0), 0);
     }
 }
