@@ -588,7 +588,7 @@ public final class PalletRounds {
         return product;
     }
 
-    /** STATIONS and CLASSES: all that an IMAGE keeps. What is told of a CLASS at a STATION stands at CLASS times 5, and STATION. */
+    /** All that an IMAGE keeps. What is told of a CLASS at a STATION stands at CLASS times 5, and STATION. */
     private static final class Net {
         int size = 0;
         final int[] kinds = new int[MOST_STATIONS];
@@ -858,33 +858,36 @@ public final class PalletRounds {
             if (!likeliestKnown) {
                 greatest = 0;
                 Arrays.fill(likeliest, 0);
-                tryPlace(0, all0, all1, 1);
+                tryPlace(this, 0, all0, all1, 1);
                 likeliestKnown = true;
             }
             return likeliest[part * MOST_STATIONS + station];
         }
 
         /** STATES come in the order in which they are preferred, so only a greater WEIGHT takes the place. Depth: 10 places. */
-        private void tryPlace(int place, int left0, int left1, long weight) {
-            if (place >= CLASSES * size) {
-                if (left0 == 0 && left1 == 0 && weight > greatest) {
-                    greatest = weight;
-                    System.arraycopy(tried, 0, likeliest, 0, likeliest.length);
-                }
+        private static void tryPlace(States all, int place, int left0, int left1, long weight) {
+            if (place >= CLASSES * all.size) {
+                if (left0 == 0 && left1 == 0) all.takeIfGreater(weight);
                 return;
             }
-            boolean second = place >= size;
-            int station = second ? place - size : place;
+            boolean second = place >= all.size;
+            int station = second ? place - all.size : place;
             int at = (second ? MOST_STATIONS : 0) + station;
             int left = second ? left1 : left0;
-            int least = station == size - 1 ? left : 0;
+            int least = station == all.size - 1 ? left : 0;
             for (int n = left; n >= least; n--) {
-                long product = weight * choose(left, n) * power(demands[at], n);
-                if (second && !walks[station]) product *= factorial(tried[station] + n);
+                long product = weight * choose(left, n) * power(all.demands[at], n);
+                if (second && !all.walks[station]) product *= factorial(all.tried[station] + n);
                 if (product == 0) continue;
-                tried[at] = n;
-                tryPlace(place + 1, second ? left0 : left0 - n, second ? left1 - n : left1, product);
+                all.tried[at] = n;
+                tryPlace(all, place + 1, second ? left0 : left0 - n, second ? left1 - n : left1, product);
             }
+        }
+
+        private void takeIfGreater(long weight) {
+            if (weight <= greatest) return;
+            greatest = weight;
+            System.arraycopy(tried, 0, likeliest, 0, likeliest.length);
         }
 
         /** CONSTANTS of the first m STATIONS without one of them, for all up to n0 and n1: one STATION after another is added. */
