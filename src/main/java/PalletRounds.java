@@ -11,6 +11,7 @@ public final class PalletRounds {
     private static final int MOST_TIME = 9, MOST_WEIGHT = 9, MOST_DEMAND = 20, MOST_TURNS = 60;
     private static final int SHEETS = 4, LONGS = 0, INTS = 1, SHORTS = 2;
     private static final int FAULT = -100;
+    private static final long LEAST_LONG = -9223372036854775808L, GREATEST_LONG = 9223372036854775807L;
     private static final long[] FACTORIALS = {1, 1, 2, 6, 24, 120, 720, 5040, 40320};
     private static final long[] CHOICES = {
         1, 0, 0, 0, 0, 0, 0,
@@ -528,7 +529,7 @@ public final class PalletRounds {
 
     private static boolean fitsTimes(long v, int often) {
         if (often <= 0) return true;
-        return v <= Long.MAX_VALUE / often && v >= Long.MIN_VALUE / often;
+        return v <= GREATEST_LONG / often && v >= LEAST_LONG / often;
     }
 
     private static long commonDivisor(long a, long b) {

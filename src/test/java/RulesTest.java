@@ -22,6 +22,7 @@ public final class RulesTest {
         innerClassesAreHidden();
         String source = Files.readString(Path.of("src/main/java/PalletRounds.java"));
         wordsAreAllowed(source);
+        libraryIsAllowed(source);
         methodsAreShort(source);
         DUE.end();
     }
@@ -89,8 +90,24 @@ public final class RulesTest {
         }
     }
 
+    private static String withoutComments(String source) {
+        return source.replaceAll("(?s)/\\*.*?\\*/", " ").replaceAll("//[^\n]*", " ");
+    }
+
+    /** Of the library's classes some static functions are listed, and no constants (the greatest long, for one). */
+    private static void libraryIsAllowed(String source) {
+        TreeSet<String> listed = new TreeSet<>(Arrays.asList("Arrays.fill", "Arrays.copyOf", "Arrays.copyOfRange",
+            "System.arraycopy", "List.of"));
+        for (String name : new String[] {"compare", "max", "min", "abs", "bitCount", "floorDiv", "floorMod"}) {
+            for (String home : new String[] {"Integer", "Long", "Math"}) listed.add(home + "." + name);
+        }
+        Pattern ofLibrary = Pattern.compile("\\b(Arrays|System|Integer|Long|Short|Byte|Math|String|List)\\.\\w+");
+        Matcher used = ofLibrary.matcher(withoutComments(source));
+        while (used.find()) DUE.is("4: " + used.group() + " is listed", listed.contains(used.group()) ? 1 : 0, 1);
+    }
+
     private static void wordsAreAllowed(String source) {
-        String code = source.replaceAll("(?s)/\\*.*?\\*/", " ").replaceAll("//[^\n]*", " ");
+        String code = withoutComments(source);
         for (String word : WORDS) {
             DUE.is("'" + word + "' stands in the program", Pattern.compile("\\b" + word + "\\b").matcher(code).find() ? 1 : 0, 0);
         }
